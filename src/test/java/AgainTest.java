@@ -9,8 +9,10 @@ public final class AgainTest {
         toldAtItsHour();
         playedAgainNothing();
         lotsByThen();
+        chargedOnlyIfFlat();
         kindsByThen();
         askedAgainLater();
+        eachPlaysFromTheBeginning();
         liveStaysAsItIs();
         Check.end();
     }
@@ -196,6 +198,24 @@ public final class AgainTest {
         Check.due("ill", x.again(0, 0, 1, 5), 1);
     }
 
+    private static void chargedOnlyIfFlat() {
+        // without work 2 the cart isn't flat when it is charged: it goes on with what it has
+        PloughField x = new PloughField();
+        x.cart(0, 1, 999, 0, 20);
+        x.work(0, 7, 0);
+        x.work(0, 63, 0);
+        x.work(0, 7, 0);
+        x.pass(25);
+        Check.due("flat", x.told(0, 3), 5);
+        Check.due("charged", x.charge(0), true);
+        x.work(0, 56, 0);
+        x.pass(30);
+        Check.due("live it comes to 56", x.cell(56, 2), 1);
+        Check.due("without work 2 it comes to 57", x.again(2, 2, 57, 2), 1);
+        Check.due("and no further", x.again(2, 2, 56, 2), 0);
+        Check.due("without work 1 it has 13 left for 14 cells", x.again(2, 1, 56, 2), 0);
+    }
+
     private static void kindsByThen() {
         PloughField x = new PloughField();
         x.kind(true, 1, 80, 50, 50, 50);
@@ -223,6 +243,107 @@ public final class AgainTest {
             }
             Check.due("without the cart at " + hour, x.again(1, 0, 1, 2), 0);
             Check.due("without rain 0 the cart goes", x.again(0, 0, 1, 2), 3);
+        }
+    }
+
+    private static void eachPlaysFromTheBeginning() {
+        // all that one playing leaves behind must be gone in the next
+        PloughField x = new PloughField();
+        x.rain(1, 1, 1);
+        x.rain(2, 2, 1);
+        x.kind(true, 1, 80, 50, 50, 50);
+        x.lot(99);
+        x.plant(0);
+        x.plant(1);
+        x.plant(60);
+        x.ill(0, true);
+        x.cart(0, 9, 999, 0, 500);
+        x.work(0, 63, 0);
+        x.pass(24);
+        x.lot(0);
+        x.kind(false, 1, 80, 50, 50, 50);
+        x.show(7, 9);
+        x.land(7, 50, 80);
+        x.plant(7);
+        x.set(2, 100);
+        x.set(1, 1);
+        x.set(3, 9);
+        x.set(0, 1);
+        x.ill(0, false);
+        x.ill(60, true);
+        x.pass(24);
+        for (int round = 0; round < 2; round++) {
+            for (int rain = 0; rain < 2; rain++) {
+                for (int cell = 0; cell < 64; cell++) {
+                    for (int what = 0; what <= 10; what++) {
+                        int want = x.cell(cell, what);
+                        if (what == 1 && cell == 7) {
+                            want = 56;
+                        } else if (what == 1) {
+                            want = 0;
+                        }
+                        Check.due("without " + rain + " " + cell + " " + what, x.again(0, rain, cell, what), want);
+                    }
+                }
+            }
+        }
+        // what is told at hour 1 must not be there at hour 0 when it is played a second time
+        PloughField w = new PloughField();
+        w.rain(9, 9, 1);
+        w.rain(9, 9, 1);
+        w.kind(true, 1, 90, 50, 50, 50);
+        w.kind(false, 1, 10, 50, 50, 50);
+        w.plant(9);
+        w.land(20, 0, 300);
+        w.lot(99);
+        w.plant(40);
+        w.plant(41);
+        w.ill(40, true);
+        w.cart(0, 1, 999, 9, 100);
+        w.work(0, 9, 0);
+        w.pass(24);
+        w.lot(0);
+        w.show(9, 1);
+        w.land(20, 9, 300);
+        w.pass(24);
+        w.ill(9, true);
+        int weeds = w.cell(9, 9);
+        Check.due("seen without marks", weeds, 10);
+        for (int i = 0; i < 4; i++) {
+            Check.due("weeds", w.again(0, i % 2, 9, 9), 10);
+            Check.due("wet", w.again(0, i % 2, 20, 1), w.cell(20, 1));
+            Check.due("wet above it", w.again(0, i % 2, 12, 1), w.cell(12, 1));
+            Check.due("lots", w.again(0, i % 2, 41, 5), 0);
+            Check.due("ill", w.again(0, i % 2, 9, 5), 1);
+        }
+        // a plant that fell ill by what was told later must not be ill when it is played again
+        PloughField y = new PloughField();
+        y.rain(1, 1, 1);
+        y.rain(1, 1, 1);
+        y.kind(true, 1, 80, 50, 50, 50);
+        y.lot(99);
+        y.lot(0);
+        y.lot(99);
+        y.plant(0);
+        y.plant(1);
+        y.ill(0, true);
+        y.pass(24);
+        Check.due("not ill", y.again(0, 0, 1, 5), 0);
+        Check.due("not ill", y.again(0, 1, 1, 5), 0);
+        Check.due("not ill", y.again(0, 0, 1, 5), 0);
+        // only the kinds told by then have a part in a plant
+        PloughField z = new PloughField();
+        z.rain(1, 1, 1);
+        z.rain(1, 1, 1);
+        z.kind(true, 1, 80, 50, 50, 50);
+        z.plant(0);
+        z.kind(false, 1, 80, 50, 50, 50);
+        z.show(5, 7);
+        z.land(6, 7, 0);
+        for (int i = 0; i < 4; i++) {
+            Check.due("weeds", z.again(0, i % 2, 0, 9), 100);
+            Check.due("shown", z.again(0, i % 2, 5, 8), 7);
+            Check.due("height", z.again(0, i % 2, 6, 0), 7);
         }
     }
 

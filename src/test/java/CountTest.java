@@ -35,6 +35,16 @@ public final class CountTest {
         for (int what = 0; what < want.length; what++) {
             Check.due("count " + what, x.count(what), want[what]);
         }
+        PloughField y = new PloughField();
+        y.kind(true, 1, 50, 50, 50, 50);
+        y.plant(0);
+        y.plant(63);
+        y.cart(2, 1, 999, 0, 100);
+        y.cart(2, 1, 999, 63, 100);
+        y.work(2, 0, 40);
+        y.work(2, 63, 2);
+        y.pass(1);
+        Check.due("the first and the last cell", y.count(16), 42);
         Check.due("none such", x.count(17), -1);
         Check.due("none such", x.count(-1), -1);
         Check.due("none such", x.count(Integer.MIN_VALUE), -1);

@@ -5,6 +5,8 @@ public final class HourTest {
         rainFallsInItsHours();
         flowAtOnce();
         flowChoosesLowestThenLeast();
+        flowAtTheFirstAndLastCell();
+        bornAtFirst();
         promise19Way();
         wayTies();
         wayShut();
@@ -20,6 +22,8 @@ public final class HourTest {
         stuckAndHeard();
         pullBrings();
         pullFromTheSameCell();
+        pullByAnotherCart();
+        theLastWork();
         promise17Told();
         promise18Job();
         promise20Water();
@@ -106,6 +110,54 @@ public final class HourTest {
         z.land(7, 9, 300);
         z.pass(1);
         Check.due("7 is not beside 8", z.cell(7, 1), 299);
+    }
+
+    private static void flowAtTheFirstAndLastCell() {
+        PloughField x = new PloughField();
+        x.land(0, 5, 200);
+        x.land(63, 5, 200);
+        x.pass(1);
+        Check.due("from 0", x.cell(0, 1), 149);
+        Check.due("to 1", x.cell(1, 1), 49);
+        Check.due("from 63", x.cell(63, 1), 149);
+        Check.due("to 55", x.cell(55, 1), 49);
+        PloughField y = new PloughField();
+        y.land(1, 5, 200);
+        y.land(62, 5, 200);
+        y.pass(1);
+        Check.due("to 0", y.cell(0, 1), 49);
+        Check.due("to 54", y.cell(54, 1), 49);
+    }
+
+    private static void bornAtFirst() {
+        // BEARS is 200 at first, LIMIT 500
+        PloughField x = new PloughField();
+        x.kind(true, 1, 80, 50, 50, 50);
+        x.land(1, 0, 400);
+        x.plant(1);
+        x.cart(0, 50, 999, 0, 100);
+        x.work(0, 1, 0);
+        x.pass(1);
+        Check.due("pressed by 200", x.cell(1, 2), 200);
+        Check.due("200 is borne", x.cell(1, 3), 1);
+        x.cart(1, 1, 999, 2, 100);
+        x.land(1, 0, 0);
+        x.work(1, 1, 0);
+        x.pass(1);
+        Check.due("pressed by 201", x.cell(1, 2), 201);
+        Check.due("201 is not", x.cell(1, 10), 3);
+        x.cart(0, 50, 999, 2, 100);
+        x.land(1, 0, 500);
+        Check.due("201 and 300 are above 500", x.way(2, 1, 0), -1);
+        x.land(1, 0, 499);
+        Check.due("201 and 250 are not", x.way(2, 1, 0), 250);
+        PloughField y = new PloughField();
+        y.cart(0, 1, 999, 0, 100);
+        y.work(0, 1, 0);
+        y.pass(1);
+        y.cart(0, 50, 999, 2, 100);
+        y.land(1, 0, 999);
+        Check.due("1 and 500 are above 500", y.way(1, 1, 0), -1);
     }
 
     private static void promise19Way() {
@@ -227,6 +279,17 @@ public final class HourTest {
         Check.due("10 times 4 is not", x.job(6, 3), 0);
         Check.due("it goes home at once", x.told(0, 3), 2);
         Check.due("by one cell", x.told(0, 1), 2);
+        // FULL 12: with 3 left 12 is at least 12
+        PloughField y = new PloughField();
+        y.cart(0, 1, 999, 0, 12);
+        y.work(0, 23, 0);
+        y.pass(10);
+        Check.due("3 left", y.told(0, 2), 3);
+        y.pass(2);
+        Check.due("it stays idle", y.told(0, 3), 0);
+        y.work(0, 22, 0);
+        y.pass(1);
+        Check.due("it takes on", y.job(1, 3), 1);
     }
 
     private static void idleLowGoesHomeAndCharges() {
@@ -499,6 +562,46 @@ public final class HourTest {
         y.work(3, 9, 0);
         y.pass(1);
         Check.due("17 costs least", y.told(0, 1), 17);
+    }
+
+    private static void pullByAnotherCart() {
+        // 1 and 10 are wet, so of the cells beside 19 cart 1 comes to 18 for the least
+        PloughField x = new PloughField();
+        x.cart(3, 50, 999, 63, 100);
+        x.cart(3, 1, 999, 0, 100);
+        x.land(1, 0, 900);
+        x.land(10, 0, 900);
+        x.land(2, 0, 900);
+        x.set(0, 40);
+        x.land(11, 0, 900);
+        x.land(18, 0, 50);
+        x.work(3, 19, 0);
+        x.pass(1);
+        Check.due("taken on by 1", x.job(0, 4), 1);
+        Check.due("by 8, as 1 is wet", x.told(1, 1), 8);
+        x.pass(3);
+        Check.due("on 18", x.told(1, 1), 18);
+        x.pass(1);
+        Check.due("done from there", x.job(0, 3), 2);
+    }
+
+    private static void theLastWork() {
+        PloughField x = new PloughField();
+        for (int i = 0; i < 59; i++) {
+            x.work(1, 0, 0);
+        }
+        x.work(0, 5, 0);
+        x.cart(0, 1, 999, 0, 100);
+        x.pass(1);
+        Check.due("taken on", x.job(59, 3), 1);
+        Check.due("by 0", x.job(59, 4), 0);
+        x.land(2, 0, 999);
+        x.land(8, 0, 999);
+        x.land(9, 0, 999);
+        x.set(0, 1);
+        x.pass(1);
+        Check.due("open again", x.job(59, 3), 0);
+        Check.due("nobody's", x.job(59, 4), -1);
     }
 
     private static void promise17Told() {

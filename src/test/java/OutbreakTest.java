@@ -10,6 +10,7 @@ public final class OutbreakTest {
         pullTwoBeatsOne();
         pullFirstEight();
         pullWithoutChoices();
+        pullTheFirstCell();
         Check.end();
     }
 
@@ -145,6 +146,18 @@ public final class OutbreakTest {
         Check.due("not 1", x.pull(2, 2, 20), 0);
         Check.due("three", x.pull(3, 2, 0), 12);
         Check.due("1 too", x.pull(3, 2, 20), 1);
+    }
+
+    private static void pullTheFirstCell() {
+        PloughField x = planted(0, 1, 8, 63);
+        x.ill(1, true);
+        Check.due("choice 0", x.pull(1, 2, 10), 0);
+        Check.due("0 keeps 8", x.pull(1, 2, 0), 1);
+        Check.due("0 is pulled", x.pull(1, 2, 20), 1);
+        PloughField y = planted(55, 62, 63);
+        y.ill(62, true);
+        Check.due("choice 0", y.pull(1, 2, 10), 63);
+        Check.due("63 keeps 55", y.pull(1, 2, 0), 1);
     }
 
     private static void pullWithoutChoices() {

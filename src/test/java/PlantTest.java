@@ -14,6 +14,8 @@ public final class PlantTest {
         spreadFromTheBeginning();
         drownedOnesDoNotSpread();
         oddsEdges();
+        spreadAtTheEdges();
+        fiveKinds();
         plantedAnew();
         Check.end();
     }
@@ -254,6 +256,34 @@ public final class PlantTest {
         y.set(2, 100);
         y.pass(24);
         Check.due("odds 100", y.cell(1, 5), 1);
+    }
+
+    private static void spreadAtTheEdges() {
+        PloughField x = withKind();
+        for (int cell : new int[] {0, 1, 7, 8, 16, 63}) {
+            x.plant(cell);
+        }
+        x.ill(1, true);
+        x.ill(63, true);
+        x.lot(0);
+        x.pass(24);
+        Check.due("0 is beside 1", x.cell(0, 5), 1);
+        Check.due("8 is beside none", x.cell(8, 5), 0);
+        Check.due("7 is beside none", x.cell(7, 5), 0);
+        Check.due("16 is beside none", x.cell(16, 5), 0);
+    }
+
+    private static void fiveKinds() {
+        PloughField x = new PloughField();
+        for (int i = 0; i < 5; i++) {
+            x.kind(i == 4, 20, 50, 50, 50, 10 + 20 * i);
+        }
+        x.plant(0);
+        Check.due("the fifth", x.share(0, 4), 200000000);
+        x.look(0, 8);
+        Check.due("weed", x.cell(0, 9), 36);
+        Check.due("the fifth", x.share(0, 4), 360000000);
+        Check.due("the first", x.share(0, 0), 40000000);
     }
 
     private static void plantedAnew() {

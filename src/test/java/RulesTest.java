@@ -8,6 +8,8 @@ public final class RulesTest {
         promise27Faults();
         faultsOfDepth();
         faultsOfStatements();
+        faultsOfOddBytes();
+        longestText();
         faultStaysUntilTheNext();
         promise28Act();
         words();
@@ -128,6 +130,44 @@ public final class RulesTest {
         Check.due("where it begins", x.fault(), 145);
         Check.due("statements of the last", x.count(13), 24);
         Check.due("blanks behind 24", Check.rules(x, "look;".repeat(24) + "\n "), 1);
+    }
+
+    private static void faultsOfOddBytes() {
+        for (int odd = 0; odd < 256; odd++) {
+            String begins = "take if wet<3" + (char) odd;
+            boolean goesOn = odd == ' ' || odd == '\n' || odd == '+' || odd == '-' || odd == '*' || odd == '/';
+            int place = goesOn ? 14 : odd == ';' ? -1 : odd >= '0' && odd <= '9' ? 14 : 13;
+            PloughField x = new PloughField();
+            Check.due("byte " + odd, Check.rules(x, begins), odd == ';' ? 0 : -1);
+            Check.due("fault of byte " + odd, x.fault(), place);
+        }
+        for (int odd = 0; odd < 256; odd++) {
+            PloughField x = new PloughField();
+            boolean isBlank = odd == ' ' || odd == '\n';
+            Check.due("first byte " + odd, Check.rules(x, (char) odd + "take;"), isBlank ? 0 : -1);
+            Check.due("fault of first byte " + odd, x.fault(), isBlank ? -1 : 0);
+        }
+    }
+
+    private static void longestText() {
+        // 500 bytes, each one a token but for the first word
+        StringBuilder text = new StringBuilder("give 1");
+        for (int i = 0; i < 246; i++) {
+            text.append("+1");
+        }
+        PloughField x = new PloughField();
+        x.kind(true, 1, 50, 50, 50, 50);
+        x.plant(9);
+        Check.due("498 bytes and a sign", Check.rules(x, text + ";"), 0);
+        Check.due("all are added", x.act(9, 2), 247);
+        Check.feed(x, "(".repeat(500));
+        Check.due("500 signs", x.rules(500), -1);
+        Check.due("the first is wrong", x.fault(), 0);
+        String deep = "give 1+1*(1+1*(1+1*(1+1*(1+1*(1+1*(1+1*(1+1*(1+1*(2))))))))) if 1<2 or 1<2 and "
+                + "[1<1 or 1<2 and [1<1 or 1<2 and [1<1 or 1<2 and [1<1 or 1<2 and [1<1 or 1<2 and [1<1 or 1<2 and "
+                + "[1<1 or 1<2 and [1<1 or 1<2 and [0-1*3<0]]]]]]]]];";
+        Check.due("nine deep in both", Check.rules(x, deep), 1);
+        Check.due("told", x.act(9, 2), 11);
     }
 
     private static void faultStaysUntilTheNext() {
@@ -257,7 +297,9 @@ public final class RulesTest {
             {"1+1=2", 1}, {"1<2 and 1<1", 0}, {"1<2 or 1<1", 1}, {"1<1 or 1<1", 0}, {"not 1<1", 1}, {"not not 1<1", 0},
             {"1<2 or 1<2 and 1<1", 1}, {"[1<2 or 1<2] and 1<1", 0}, {"1<1 and 1<1 or 1<2", 1},
             {"1<1 and [1<1 or 1<2]", 0}, {"not 1<2 or 1<2", 1}, {"not [1<2 or 1<2]", 0}, {"not 1<1 and 1<1", 0},
-            {"1<1 or 1<2 and 1<2", 1}, {"1<1 or 1<2 and 1<1 or 1<1 and 1<2", 0}, {"0-1<0", 1},
+            {"1<1 or 1<2 and 1<2", 1}, {"1<1 or 1<2 and 1<1 or 1<1 and 1<2", 0},
+            {"1<2 or 1<1 or 1<1", 1}, {"1<1 or 1<2 or 1<1", 1}, {"1<1 or 1<1 or 1<2", 1}, {"1<1 or 1<1 or 1<1", 0},
+            {"1<2 and 1<2 and 1<1", 0}, {"1<1 and 1<2 and 1<2", 0}, {"1<2 and 1<2 and 1<2", 1}, {"0-1<0", 1},
         };
         for (int i = 0; i < tests.length; i++) {
             PloughField x = planted();
