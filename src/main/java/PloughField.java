@@ -138,7 +138,7 @@ public final class PloughField {
     }
 
     public boolean charge(int cart) {
-        if (!book.carts.has(cart) || live.fleet.doing[cart] != FLAT) {
+        if (!book.carts.has(cart) || !live.fleet.isFlat(cart)) {
             return false;
         }
         return tell(CHARGE, cart, 0, 0);
@@ -728,6 +728,10 @@ public final class PloughField {
             }
         }
 
+        int marksOn(int cell) {
+            return isCell(cell) ? shown[cell] : 0;
+        }
+
         void see(int cell, int marks) {
             if (!standsOn(cell)) {
                 return;
@@ -875,10 +879,14 @@ public final class PloughField {
         }
 
         void refill(int cart) {
-            if (isPlace(cart) && doing[cart] == FLAT) {
+            if (isFlat(cart)) {
                 power[cart] = book.carts.at(cart, Book.CART_FULL);
                 doing[cart] = IDLE;
             }
+        }
+
+        boolean isFlat(int cart) {
+            return isPlace(cart) && doing[cart] == FLAT;
         }
 
         void plugIn(int cart) {
@@ -1183,7 +1191,7 @@ public final class PloughField {
             ground.flow();
             ground.dry();
             makeOffers();
-            for (int i = 0; i < book.carts.size; i++) {
+            for (int i = 0; i < MOST_CARTS; i++) {
                 takeTurn(i);
             }
             if (now % DAY == 0) {
@@ -1197,7 +1205,7 @@ public final class PloughField {
         private void makeOffers() {
             int ready = fleet.readyOnes();
             int searched = 0;
-            for (int work = 0; work < book.works.size && ready != 0; work++) {
+            for (int work = 0; work < MOST_WORKS && ready != 0; work++) {
                 if (workState[work] != OPEN) {
                     continue;
                 }
@@ -1286,7 +1294,7 @@ public final class PloughField {
         private void doWork(int cart, int work) {
             int cell = book.works.at(work, Book.WORK_CELL);
             switch (book.works.at(work, Book.WORK_KIND)) {
-                case WORK_LOOK: plants.see(cell, plants.shown[cell]); break;
+                case WORK_LOOK: plants.see(cell, plants.marksOn(cell)); break;
                 case WORK_TAKE: plants.remove(cell, BY_TAKING); break;
                 case WORK_GIVE: plants.nourish(cell, book.works.at(work, Book.WORK_MUCH)); break;
                 default: fleet.freeOneStuck(cell, fleet.place[cart]); break;
@@ -1303,7 +1311,7 @@ public final class PloughField {
             int work = fleet.task[cart];
             boolean isHomeward = fleet.doing[cart] == HOMEWARD;
             int next = paths.firstTo(cart, isHomeward ? book.carts.at(cart, Book.CART_HOME) : goalOf(cart, work));
-            if (next < 0) {
+            if (!isCell(next)) {
                 if (!isHomeward) {
                     leaveWork(cart, IDLE);
                 }
@@ -1349,7 +1357,7 @@ public final class PloughField {
                 case 5: return plants.isIll(cell) ? 1 : 0;
                 case 6: return stands ? plants.seen[cell] : 0;
                 case 7: return stands ? plants.got[cell] : 0;
-                case 8: return plants.shown[cell];
+                case 8: return plants.marksOn(cell);
                 case 9: return stands ? plants.weedHundredths(cell) : 0;
                 case 10: return plants.bare[cell];
                 default: return NONE;
