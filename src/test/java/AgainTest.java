@@ -246,8 +246,8 @@ public final class AgainTest {
         }
     }
 
-    private static void eachPlaysFromTheBeginning() {
-        // all that one playing leaves behind must be gone in the next
+    /** Something of every sort, told at hour 0 and at hour 24, with two rains of 1 in the first hours. */
+    private static PloughField toldTwice() {
         PloughField x = new PloughField();
         x.rain(1, 1, 1);
         x.rain(2, 2, 1);
@@ -272,20 +272,23 @@ public final class AgainTest {
         x.ill(0, false);
         x.ill(60, true);
         x.pass(24);
-        for (int round = 0; round < 2; round++) {
-            for (int rain = 0; rain < 2; rain++) {
-                for (int cell = 0; cell < 64; cell++) {
-                    for (int what = 0; what <= 10; what++) {
-                        int want = x.cell(cell, what);
-                        if (what == 1 && cell == 7) {
-                            want = 56;
-                        } else if (what == 1) {
-                            want = 0;
-                        }
-                        Check.due("without " + rain + " " + cell + " " + what, x.again(0, rain, cell, what), want);
-                    }
-                }
+        return x;
+    }
+
+    /** All that one playing leaves behind must be gone in the next. */
+    private static void nothingIsLeftBehind(int cell) {
+        PloughField x = toldTwice();
+        for (int round = 0; round < 4; round++) {
+            for (int what = 0; what <= 10; what++) {
+                int want = what != 1 ? x.cell(cell, what) : cell == 7 ? 56 : 0;
+                Check.due("without " + round % 2 + " " + cell + " " + what, x.again(0, round % 2, cell, what), want);
             }
+        }
+    }
+
+    private static void eachPlaysFromTheBeginning() {
+        for (int cell = 0; cell < 64; cell++) {
+            nothingIsLeftBehind(cell);
         }
         // what is told at hour 1 must not be there at hour 0 when it is played a second time
         PloughField w = new PloughField();

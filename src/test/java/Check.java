@@ -37,9 +37,13 @@ final class Check {
 
     static void feed(PloughField field, String text) {
         for (int from = 0; from < text.length(); from += 20) {
-            field.feed(four(text, from), four(text, from + 4), four(text, from + 8), four(text, from + 12),
-                    four(text, from + 16));
+            feedTwenty(field, text.substring(from, Math.min(text.length(), from + 20)));
         }
+    }
+
+    /** One call of feed with up to twenty bytes, filled up with blanks. */
+    static int feedTwenty(PloughField field, String text) {
+        return field.feed(four(text, 0), four(text, 4), four(text, 8), four(text, 12), four(text, 16));
     }
 
     private static int four(String text, int from) {

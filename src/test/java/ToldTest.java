@@ -1,10 +1,9 @@
-/** Promises 1 to 13: a new object, and the calls that are told, with their edges and their limits. */
+/** Promises 2 to 13: the calls that are told, with their edges and their limits. */
 public final class ToldTest {
     private static final int LOW = Integer.MIN_VALUE;
     private static final int HIGH = Integer.MAX_VALUE;
 
     public static void main(String[] args) {
-        promise1New();
         promise2Land();
         promise3Set();
         promise4Rain();
@@ -19,27 +18,6 @@ public final class ToldTest {
         promise13Ill();
         fourHundredAreTold();
         Check.end();
-    }
-
-    private static void promise1New() {
-        PloughField x = new PloughField();
-        Check.due("NONE", PloughField.NONE, -1);
-        for (int what = 0; what <= 16; what++) {
-            Check.due("new count " + what, x.count(what), 0);
-        }
-        for (int cell = 0; cell < 64; cell++) {
-            for (int what = 0; what <= 10; what++) {
-                Check.due("new cell " + cell + " " + what, x.cell(cell, what), what == 10 ? 1 : 0);
-            }
-        }
-        for (int what = 0; what <= 2; what++) {
-            Check.due("new water " + what, x.water(what), 0);
-        }
-        Check.due("new told", x.told(0, 0), -2);
-        Check.due("new job", x.job(0, 0), -2);
-        Check.due("new share", x.share(0, 0), -1);
-        Check.due("new fault", x.fault(), -1);
-        Check.due("new act", x.act(0, 0), -2000000000);
     }
 
     private static void promise2Land() {
