@@ -24,6 +24,7 @@ public final class EdgeAgainTest {
         plansArePlayedAsWorks();
         settingsAtTheirHour();
         toldAfterTheHourHasPassed();
+        heightsAre0BeforeTheyAreTold();
         askedInTurn();
         Check.end();
     }
@@ -368,6 +369,22 @@ public final class EdgeAgainTest {
         x.pass(1);
         Check.due("it flows to 8", x.again(0, 0, 8, 1), 99);
         Check.due("as live", x.cell(8, 1), 99);
+    }
+
+    private static void heightsAre0BeforeTheyAreTold() {
+        // wet flows from 20 only once its height is told, in every playing
+        PloughField x = new PloughField();
+        x.rain(1, 5, 99);
+        x.rain(9, 9, 1);
+        x.rain(9, 9, 1);
+        x.pass(10);
+        x.land(20, 9, 0);
+        x.pass(1);
+        Check.due("live", x.cell(12, 1), 486);
+        for (int i = 0; i < 6; i++) {
+            Check.due("without a rain of 1", x.again(0, 1 + i % 2, 12, 1), 485);
+            Check.due("the height", x.again(0, 1 + i % 2, 20, 0), 9);
+        }
     }
 
     private static void askedInTurn() {

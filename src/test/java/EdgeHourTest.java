@@ -28,6 +28,7 @@ public final class EdgeHourTest {
         noWayAndCharge0();
         pullOfNone();
         pullInACorner();
+        pullGoesToTheLeastOfSeveral();
         pulledCartsHaveTheirTurn();
         wayAtTheLimit();
         wayFromAShutCell();
@@ -386,7 +387,9 @@ public final class EdgeHourTest {
         Check.due("it goes", x.told(0, 3), 1);
         x.pass(1);
         Check.due("done", x.job(0, 3), 2);
+        Check.due("done by it", x.job(0, 4), 0);
         Check.due("idle with 0", x.told(0, 3), 0);
+        Check.due("without a work", x.told(0, 4), -1);
         x.pass(1);
         Check.due("it would go home: flat", x.told(0, 3), 5);
     }
@@ -497,6 +500,32 @@ public final class EdgeHourTest {
             x.pass(1);
             Check.due("done", x.job(0, 3), 2);
         }
+    }
+
+    private static void pullGoesToTheLeastOfSeveral() {
+        // for 8 from 1: 0 and 9 are one cell each, the least is gone to
+        PloughField x = new PloughField();
+        x.cart(3, 1, 999, 1, 100);
+        x.work(3, 8, 0);
+        x.pass(1);
+        Check.due("0, not 9", x.told(0, 1), 0);
+        // with 0 wet 9 costs less
+        PloughField y = new PloughField();
+        y.land(0, 0, 200);
+        y.cart(3, 1, 999, 1, 100);
+        y.work(3, 8, 0);
+        y.pass(1);
+        Check.due("9, as it costs less", y.told(0, 1), 9);
+        // for 27 from 3: 19 is two cells of 3, 26 and 28 are three of 1 and one of 3: the fewest cells are gone
+        PloughField z = new PloughField();
+        z.land(11, 0, 250);
+        z.land(19, 0, 250);
+        z.land(26, 0, 250);
+        z.land(28, 0, 250);
+        z.cart(3, 1, 999, 3, 100);
+        z.work(3, 27, 0);
+        z.pass(1);
+        Check.due("11, as it's fewer cells", z.told(0, 1), 11);
     }
 
     private static void pulledCartsHaveTheirTurn() {
@@ -635,6 +664,11 @@ public final class EdgeHourTest {
             Check.due("to -1: " + whats[i], x.way(0, -1, whats[i]), -1);
             Check.due("of cart 1: " + whats[i], x.way(1, 0, whats[i]), -1);
             Check.due("of cart -1: " + whats[i], x.way(-1, 0, whats[i]), -1);
+        }
+        for (int cell = 0; cell < 64; cell += 9) {
+            PloughField y = new PloughField();
+            y.cart(0, 1, 999, cell, 100);
+            Check.due("next of one that's on " + cell, y.way(0, cell, 2), cell);
         }
         Check.due("the border isn't crossed: 7 to 8", x.way(0, 7, 1) + x.way(0, 8, 1), 8);
         PloughField y = new PloughField();

@@ -216,11 +216,21 @@ public final class EdgeOutbreakTest {
         Check.due("the eighth", x.pull(1, 1, 17), 21);
         Check.due("no ninth still", x.pull(1, 1, 18), -1);
         Check.due("33 can't be pulled", x.pull(3, 1, 0), 9);
-        // the ninth would be the best, but it isn't among the eight
+        // what lies between 17 and 33 is come to from either side
         for (int cell : new int[] {25, 24, 32, 26, 27}) {
             x.plant(cell);
         }
         Check.due("17 holds no one back", x.pull(1, 64, 0), 16);
+        // 33, the ninth, would keep 34, 35 and 36, but it isn't among the eight
+        PloughField z = planted(1, 5, 8, 9, 10, 12, 13, 14, 17, 21, 33, 34, 35, 36, 41);
+        for (int cell : new int[] {9, 13, 41}) {
+            z.ill(cell, true);
+        }
+        Check.due("one of the eight", z.pull(1, 64, 0), 14);
+        Check.due("three of the eight", z.pull(3, 64, 0), 12);
+        z.ill(13, false);
+        Check.due("33 is the fifth now", z.pull(1, 64, 14), 33);
+        Check.due("and is pulled", z.pull(1, 64, 24), 1);
         PloughField y = planted(0, 1, 8, 63);
         y.ill(0, true);
         Check.due("the second of two is the last", y.pull(1, 1, 11), 8);

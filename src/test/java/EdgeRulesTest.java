@@ -7,6 +7,7 @@ public final class EdgeRulesTest {
 
     public static void main(String[] args) {
         tapeTakes500();
+        tapeIsReadToItsLastByte();
         tapeTakesTheHighestByteFirst();
         rulesTakeFrom0ToAllBytes();
         rulesEmptyTheTape();
@@ -51,6 +52,15 @@ public final class EdgeRulesTest {
         Check.due("501 can't be read", x.rules(501), -2);
         Check.due("500 can", x.rules(500), -1);
         Check.due("and the tape takes anew", x.feed(1, 1, 1, 1, 1), 20);
+    }
+
+    private static void tapeIsReadToItsLastByte() {
+        String[] ends = {"take;", "take", "tak", "give 1", "give 12345", "give 123456", "take if wet<1;", "look if we",
+            "take if given<1;", "take if give", ";", "#", "7"};
+        int[] faults = {-1, 500, 497, 500, 500, 494, -1, 498, -1, 496, 499, 499, 499};
+        for (int i = 0; i < ends.length; i++) {
+            fault(" ".repeat(500 - ends[i].length()) + ends[i], faults[i]);
+        }
     }
 
     private static void tapeTakesTheHighestByteFirst() {

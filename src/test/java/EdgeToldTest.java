@@ -22,7 +22,8 @@ public final class EdgeToldTest {
         sidesOfStrips();
         landTakesItsCornersAsTold();
         landIsToldAnew();
-        settingsAtFirst();
+        limitAtFirst();
+        bearsAtFirst();
         limitLeast();
         limitMost();
         bearsLeast();
@@ -194,7 +195,7 @@ public final class EdgeToldTest {
         return x.way(cart, 1, 0);
     }
 
-    private static void settingsAtFirst() {
+    private static void limitAtFirst() {
         Check.due("LIMIT 500 is entered", costToOne(new PloughField(), 50, 999), 500);
         PloughField x = new PloughField();
         x.cart(0, 1, 999, 0, 100);
@@ -202,6 +203,35 @@ public final class EdgeToldTest {
         x.pass(2);
         Check.due("LIMIT 500 and one more isn't", costToOne(x, 50, 999), -1);
         Check.due("one less is", costToOne(x, 49, 999), 490);
+    }
+
+    /** Why 1 is bare after a cart of 50 with 150 below it and one of this weight went over it. */
+    private static int pressed(int weight) {
+        PloughField x = withPlants();
+        x.land(1, 0, 201);
+        x.cart(0, 50, 999, 0, 100);
+        x.work(0, 1, 0);
+        x.pass(1);
+        x.land(1, 0, 0);
+        x.cart(1, weight, 999, 2, 100);
+        x.work(1, 1, 0);
+        x.pass(1);
+        Check.due("press", x.cell(1, 2), 150 + weight);
+        return x.cell(1, 10);
+    }
+
+    private static void bearsAtFirst() {
+        Check.due("BEARS 200 is borne", pressed(50), 0);
+        PloughField x = withPlants();
+        x.cart(0, 1, 999, 0, 100);
+        x.work(0, 1, 0);
+        x.pass(1);
+        x.land(1, 0, 301);
+        x.cart(1, 50, 999, 2, 100);
+        x.work(1, 1, 0);
+        x.pass(1);
+        Check.due("press", x.cell(1, 2), 201);
+        Check.due("BEARS 200 and one more isn't", x.cell(1, 10), 3);
     }
 
     private static void limitLeast() {
