@@ -29,7 +29,7 @@ public final class RoomTest {
             switch (i % 30) {
                 case 0: sum += x.land(n % 64, n % 100, n % 700) ? 1 : 0; break;
                 case 1: sum += x.set(n % 4, n % 15) ? 1 : 0; break;
-                case 2: sum += x.rain(x.count(0) + 3, x.count(0) + 5, 20); break;
+                case 2: sum += x.rain(400 + n % 300, 710, 20); break;
                 case 3: sum += x.cart(n % 4, 5, 300, n % 64, 50); break;
                 case 4: sum += x.charge(n % 8) ? 1 : 0; break;
                 case 5: sum += x.work(n % 4, n % 64, n % 4 == 2 ? 5 : 0); break;
