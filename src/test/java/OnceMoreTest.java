@@ -12,6 +12,7 @@ public final class OnceMoreTest {
         theWayHomePresses();
         aBareCellHasNoSize();
         pullGoesOnWithTheLeastCell();
+        oneLotForEachIllOneBeside();
         sharesAreCutMarkByMark();
         weedsAreAddedBeforeTheyAreCut();
         onlyWhatIsNamedIsLeftOut();
@@ -185,6 +186,29 @@ public final class OnceMoreTest {
         Check.due("26 is less than 35", x.told(0, 1), 26);
         x.pass(1);
         Check.due("done", x.job(0, 3), 2);
+    }
+
+    private static void oneLotForEachIllOneBeside() {
+        // each corner with its two cells beside it, of which one or both are ill: the LOT 0 is left for the second day
+        int[][] corners = {{0, 1, 8}, {7, 6, 15}, {56, 48, 57}, {63, 55, 62}};
+        for (int[] corner : corners) {
+            for (int ill = 1; ill <= 2; ill++) {
+                PloughField x = new PloughField();
+                x.kind(true, 1, 50, 50, 50, 50);
+                for (int i = 0; i < 3; i++) {
+                    x.plant(corner[i]);
+                }
+                for (int i = 1; i <= ill; i++) {
+                    x.ill(corner[i], true);
+                    x.lot(99);
+                }
+                x.lot(0);
+                x.pass(24);
+                Check.due(ill + " taken for " + corner[0], x.cell(corner[0], 5), 0);
+                x.pass(24);
+                Check.due("the next is 0 for " + corner[0], x.cell(corner[0], 5), 1);
+            }
+        }
     }
 
     private static void sharesAreCutMarkByMark() {
