@@ -1,6 +1,6 @@
 /**
- * The document once more: sentences that the other tests by hand left to the random runs of ModelTest, each
- * with answers worked out by hand.
+ * The document once more: sentences that the other tests by hand left to the random runs of ModelTest, and one
+ * (the least next cell of a pull) that those left out too, each with answers worked out by hand.
  */
 public final class OnceMoreTest {
     public static void main(String[] args) {
